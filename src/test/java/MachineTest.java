@@ -6,8 +6,6 @@ public final class MachineTest {
     public static void main(String[] args) {
         promises8And10Registers();
         promises9And11Cells();
-        promise8RefusedChangesNothing();
-        promise9RefusedChangesNothing();
         settingLeavesTheRunAlone();
         Check.end("MachineTest");
     }
@@ -48,24 +46,6 @@ public final class MachineTest {
             Check.due("9: setCell " + c, x.setCell(c, 5), -1);
             Check.due("11: cell " + c, x.cell(c), 0);
         }
-    }
-
-    private static void promise8RefusedChangesNothing() {
-        BundleAssembler x = Check.midRun();
-        String before = Check.stateOf(x);
-        for (int r : NO_REGISTER) {
-            x.setRegister(r, 5);
-        }
-        Check.due("8: state after refusals", Check.stateOf(x), before);
-    }
-
-    private static void promise9RefusedChangesNothing() {
-        BundleAssembler x = Check.midRun();
-        String before = Check.stateOf(x);
-        for (int c : NO_CELL) {
-            x.setCell(c, 5);
-        }
-        Check.due("9: state after refusals", Check.stateOf(x), before);
     }
 
     private static void settingLeavesTheRunAlone() {

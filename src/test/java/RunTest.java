@@ -3,13 +3,11 @@ public final class RunTest {
     public static void main(String[] args) {
         promise12Restart();
         promise13RunStops();
-        promise13RunRefuses();
         kindsOverTwoRegisters();
         kindsWithRegisterAsItsOwnSource();
         addi();
         loadAndStore();
         bnzAndJump();
-        targetsBeyondTheEnd();
         promise14And15PlaceAndOver();
         promise16JumpsCounted();
         promise16JumpsToTheFollowing();
@@ -70,51 +68,26 @@ public final class RunTest {
         Check.due("13: place", loop.place(), 1);
     }
 
-    private static void promise13RunRefuses() {
-        BundleAssembler x = Check.midRun();
-        String before = Check.stateOf(x);
-        for (int steps : new int[] {-1, 401, Check.LOW, Check.HIGH}) {
-            Check.due("13: run " + steps, x.run(steps), -1);
-        }
-        Check.due("13: state after refusals", Check.stateOf(x), before);
-        Check.due("13: refused with no program", new BundleAssembler().run(401), -1);
-    }
-
-    /** Answers what register 3 becomes when its sources are registers 1 and 2. */
-    private static int result(int kind, int left, int right) {
-        BundleAssembler x = new BundleAssembler();
-        x.emit(kind, 3, 1, 2);
-        x.setRegister(1, left);
-        x.setRegister(2, right);
-        x.setRegister(3, 12345);
-        Check.due("kind " + kind + ": run", x.run(400), 1);
-        Check.due("kind " + kind + ": place", x.place(), 1);
-        Check.due("kind " + kind + ": a stays", x.register(1), left);
-        Check.due("kind " + kind + ": b stays", x.register(2), right);
-        Check.due("kind " + kind + ": jumps", x.jumps(), 0);
-        return x.register(3);
-    }
-
     private static void kindsOverTwoRegisters() {
-        Check.due("ADD", result(Check.ADD, 12, 5), 17);
-        Check.due("ADD wraps", result(Check.ADD, Check.HIGH, 1), Check.LOW);
-        Check.due("SUB", result(Check.SUB, 12, 5), 7);
-        Check.due("SUB below 0", result(Check.SUB, 5, 12), -7);
-        Check.due("SUB wraps", result(Check.SUB, Check.LOW, 1), Check.HIGH);
-        Check.due("AND", result(Check.AND, 12, 6), 4);
-        Check.due("AND of negatives", result(Check.AND, -1, -16), -16);
-        Check.due("XOR", result(Check.XOR, 12, 6), 10);
-        Check.due("XOR of negatives", result(Check.XOR, -1, 5), -6);
-        Check.due("MUL", result(Check.MUL, 12, -5), -60);
-        Check.due("MUL wraps", result(Check.MUL, 65537, 65537), 131073);
-        Check.due("MUL wraps at the lowest", result(Check.MUL, Check.LOW, -1), Check.LOW);
-        Check.due("SHL", result(Check.SHL, 3, 4), 48);
-        Check.due("SHL by 0", result(Check.SHL, 3, 0), 3);
-        Check.due("SHL by 31", result(Check.SHL, 3, 31), Check.LOW);
-        Check.due("SHL by 32", result(Check.SHL, 3, 32), 3);
-        Check.due("SHL by 37", result(Check.SHL, 3, 37), 96);
-        Check.due("SHL by -1", result(Check.SHL, 1, -1), Check.LOW);
-        Check.due("SHL by the lowest", result(Check.SHL, 9, Check.LOW), 9);
+        Check.due("ADD", Check.result(Check.ADD, 12, 5), 17);
+        Check.due("ADD wraps", Check.result(Check.ADD, Check.HIGH, 1), Check.LOW);
+        Check.due("SUB", Check.result(Check.SUB, 12, 5), 7);
+        Check.due("SUB below 0", Check.result(Check.SUB, 5, 12), -7);
+        Check.due("SUB wraps", Check.result(Check.SUB, Check.LOW, 1), Check.HIGH);
+        Check.due("AND", Check.result(Check.AND, 12, 6), 4);
+        Check.due("AND of negatives", Check.result(Check.AND, -1, -16), -16);
+        Check.due("XOR", Check.result(Check.XOR, 12, 6), 10);
+        Check.due("XOR of negatives", Check.result(Check.XOR, -1, 5), -6);
+        Check.due("MUL", Check.result(Check.MUL, 12, -5), -60);
+        Check.due("MUL wraps", Check.result(Check.MUL, 65537, 65537), 131073);
+        Check.due("MUL wraps at the lowest", Check.result(Check.MUL, Check.LOW, -1), Check.LOW);
+        Check.due("SHL", Check.result(Check.SHL, 3, 4), 48);
+        Check.due("SHL by 0", Check.result(Check.SHL, 3, 0), 3);
+        Check.due("SHL by 31", Check.result(Check.SHL, 3, 31), Check.LOW);
+        Check.due("SHL by 32", Check.result(Check.SHL, 3, 32), 3);
+        Check.due("SHL by 37", Check.result(Check.SHL, 3, 37), 96);
+        Check.due("SHL by -1", Check.result(Check.SHL, 1, -1), Check.LOW);
+        Check.due("SHL by the lowest", Check.result(Check.SHL, 9, Check.LOW), 9);
     }
 
     private static void kindsWithRegisterAsItsOwnSource() {
@@ -218,32 +191,6 @@ public final class RunTest {
         Check.due("JUMP to itself", self.run(400), 400);
         Check.due("JUMP to itself: place", self.place(), 0);
         Check.due("JUMP to itself: jumps", self.jumps(), 400);
-    }
-
-    private static void targetsBeyondTheEnd() {
-        for (int kind = Check.BNZ; kind <= Check.JUMP; kind++) {
-            for (int b : new int[] {2, 3, 24}) {
-                BundleAssembler x = new BundleAssembler();
-                x.emit(kind, 0, 1, b);
-                x.emit(Check.ADDI, 2, 2, 1);
-                x.setRegister(1, 1);
-                Check.due("kind " + kind + " to " + b + ": run", x.run(400), 1);
-                Check.due("kind " + kind + " to " + b + ": place", x.place(), 2);
-                Check.due("kind " + kind + " to " + b + ": over", x.over(), 1);
-                Check.due("kind " + kind + " to " + b + ": jumps", x.jumps(), 1);
-                x.restart();
-                Check.due("kind " + kind + " to " + b + ": place set back", x.place(), 0);
-            }
-            BundleAssembler grown = new BundleAssembler();
-            grown.emit(kind, 0, 1, 3);
-            grown.setRegister(1, 1);
-            grown.run(1);
-            for (int i = 1; i < 5; i++) {
-                grown.emit(Check.ADDI, 2, 2, 1);
-            }
-            grown.run(1);
-            Check.due("kind " + kind + ": a real target once there", grown.place(), 3);
-        }
     }
 
     private static void promise14And15PlaceAndOver() {
