@@ -16,6 +16,7 @@ public final class TermsBoundaryTest {
         targetsOfAFirstOperation();
         targetsOfALastOperation();
         targetsMoveWithTheCount();
+        beyondTheEndMeansTheEnd();
         playNoPart();
         eachAsIfAlone();
         overAtTheCount();
@@ -243,26 +244,61 @@ public final class TermsBoundaryTest {
         Check.due(what + ": goes on", x.run(1), place == x.count() ? 0 : 1);
     }
 
-    /** The same b means another place when the program has become longer or shorter. */
+    /** The same b means another place when the program has become longer or shorter, and the first one again after that. */
     private static void targetsMoveWithTheCount() {
         for (int kind = Check.BNZ; kind <= Check.JUMP; kind++) {
             BundleAssembler x = new BundleAssembler();
             x.setRegister(1, 1);
             x.emit(kind, 0, 1, 3);
-            int[] growing = {1, 2, 3, 3, 3};
-            for (int place : growing) {
-                x.run(1);
-                Check.due("kind " + kind + " to 3 of " + x.count(), x.place(), place);
-                Check.due("kind " + kind + " over", x.over(), x.count() <= 3 ? 1 : 0);
+            String what = "kind " + kind + " to 3, ";
+            for (int count = 1; count <= 6; count++) {
+                goesTo3(what + "grown to " + count, x, count);
                 x.emit(Check.ADD, 0, 0, 0);
             }
-            for (int count = 5; count >= 1; count--) {
+            for (int count = 6; count >= 1; count--) {
                 x.retract();
-                x.run(1);
-                Check.due("kind " + kind + " to 3, left " + count, x.place(), count < 3 ? count : 3);
-                Check.due("kind " + kind + " jumps, left " + count, x.jumps(), count == 1 ? 0 : 1);
+                goesTo3(what + "shrunk to " + count, x, count);
+            }
+            for (int count = 2; count <= 6; count++) {
+                x.emit(Check.ADD, 0, 0, 0);
+                goesTo3(what + "grown again to " + count, x, count);
             }
         }
+    }
+
+    private static void goesTo3(String what, BundleAssembler x, int count) {
+        Check.due(what + ": count", x.count(), count);
+        int target = count < 3 ? count : 3;
+        goesTo(what, x, 1, target, target != 1);
+    }
+
+    /** "Means the same as count(), in everything": from every place, held against a twin with count() for its b. */
+    private static void beyondTheEndMeansTheEnd() {
+        for (int kind = Check.BNZ; kind <= Check.JUMP; kind++) {
+            for (int count = 1; count <= 24; count++) {
+                for (int at = 0; at < count; at++) {
+                    String due = afterABranch(kind, count, at, count);
+                    String going = " place " + count + " over 1 jumps " + (at == count - 1 ? 0 : 1) + " registers";
+                    Check.due("kind " + kind + " at " + at + " to the end of " + count, due.contains(going), true);
+                    for (int b = count + 1; b <= 24; b++) {
+                        String what = "kind " + kind + " at " + at + " of " + count + " to " + b;
+                        Check.due(what, afterABranch(kind, count, at, b), due);
+                    }
+                }
+            }
+        }
+    }
+
+    /** What run answers and all that can be asked afterwards, the branch being number at of count operations. */
+    private static String afterABranch(int kind, int count, int at, int b) {
+        BundleAssembler x = Check.counting(at);
+        x.emit(kind, 3, 1, b);
+        for (int i = at + 1; i < count; i++) {
+            x.emit(Check.ADDI, 2, 2, 1);
+        }
+        x.setRegister(1, 1);
+        int done = x.run(400);
+        return "run " + done + " " + Check.stateOf(x);
     }
 
     private static void playNoPart() {
